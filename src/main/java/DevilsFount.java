@@ -1164,7 +1164,7 @@ public final class DevilsFount {
         }
 
         /** The value of the first line that is asked for and whose B is so, or what is told without one. */
-        int tells(int what, int[] facts, int without) {
+        int tells(int what, int[] facts) {
             for (int line = 0; line < count; line++) {
                 boolean always = conditions[line] == ends[line];
                 if (asked[line] == what && (always || work(conditions[line], ends[line], facts) != 0)) {
@@ -1172,7 +1172,10 @@ public final class DevilsFount {
                     return Math.max(0, Math.min(what == BREAKS ? 9 : 1000, told));
                 }
             }
-            return without;
+            if (what == DARES) {
+                return 100 * facts[DARING];
+            }
+            return what == SETS ? 1000 : 0;
         }
 
         private int work(int from, int to, int[] facts) {
@@ -1503,8 +1506,7 @@ public final class DevilsFount {
             facts[Law.WAITS] = shop.jobs.count - Integer.bitCount(now.printed);
             facts[Law.BLANKS] = now.blanks;
             facts[Law.DAY] = now.day;
-            int without = what == Law.SETS ? 1000 : what == Law.BREAKS ? 0 : 100 * now.daring;
-            return shop.law.tells(what, facts, without);
+            return shop.law.tells(what, facts);
         }
 
         private void openShop() {
