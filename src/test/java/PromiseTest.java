@@ -316,6 +316,10 @@ public final class PromiseTest {
         tell(y, 0, "sets " + edge + ";");
         due("a draw that is not below", y.days(1), 0);
         y.state(4);
+        tell(y, 0, "sets 1;");
+        y.days(1);
+        due("1 is above 0", y.look(10), next(4));
+        y.state(4);
         tell(y, 0, "sets " + (edge + 1) + ";");
         due("a draw that is below", y.days(1), 1);
     }
@@ -480,6 +484,11 @@ public final class PromiseTest {
         law("sets 18 + 9999 * 9999 * 25 / 9000 / 9999 / 2;", 9);
         law("sets length * 100 + least * 10 + rest;", 2 * 100 + 3 * 10 + 8);
         law("sets daring * 100 + said * 10 + done + waits + blanks + day;", 502);
+        law("sets 7 * 4 / 1;", 28);
+        law("sets 1 when 1 < 2 and 1 = 1; sets 2;", 1);
+        law("sets 1 when 2 > 1 and 1 = 1; sets 2;", 1);
+        law("sets 1 when not 1 < 2; sets 2;", 2);
+        law("sets 1 when not 2 > 1; sets 2;", 2);
         law("sets 1 when 1 > 1; sets 2 when 1 < 1; sets 3 when 1 = 2; sets 4 when 1 = 1; sets 5;", 4);
         law("breaks 1; dares 2; sets 3; sets 4;", 3);
         law("sets 1 when 1 = 2;", 1000);
@@ -496,9 +505,17 @@ public final class PromiseTest {
         law("sets 1 when 2 + 2 * 2 = 6 and 6 = 2 * 2 + 2; sets 2;", 1);
         law("sets 1 when ((1 = 1) and ((1 = 2) or not (1 = 2))); sets 2;", 1);
 
+        facts();
         DevilsFount x = new DevilsFount();
         sorts(x, 99);
         tell(x, 1, "from 0 a;");
+        for (int i = 0; i < 40; i++) {
+            tell(x, 0, "sets " + i + " + 0 + 0 + 0 + 0 + 0 + 0 + 0 + 0 + 0 + 0 when 0 + 0 + 0 + 0 + 0 = 0;");
+            due("a law told anew", x.job(0, 3), i);
+        }
+        due("a fault while ( are open", tell(x, 0, "sets 1 when ((((((((1 = 1;"), NONE);
+        due("none is open any more", tell(x, 0, "sets 1 when ((((((((1 = 1))))))));"), 1);
+        due("it is so", x.job(0, 3), 1);
         tell(x, 0, "breaks 10;");
         due("breaks is held to 9", x.job(0, 4), 9);
         tell(x, 0, "breaks 0 - 1;");
@@ -510,6 +527,35 @@ public final class PromiseTest {
         due("an empty law", x.text(0), 0);
         due("breaks without one", x.job(0, 4), 0);
         due("sets without one", x.job(0, 3), 1000);
+    }
+
+    /** Each fact has a value of its own here. */
+    private static void facts() {
+        DevilsFount x = new DevilsFount();
+        sorts(x, 20, 15);
+        tell(x, 1, "from 0 a; from 0 ab; from 100 aabb; from 100 b; from 100 b; from 100 b; from 100 b;");
+        tell(x, 2, "word a; word b; word a;");
+        x.days(1);
+        tell(x, 0, "dares 0;");
+        x.set(1, 0, 8);
+        x.days(9);
+        x.set(0, 1, 16);
+        String[] facts = {"length", "least", "rest", "daring", "said", "done", "waits", "blanks", "day"};
+        int[] want = {4, 16, 36, 8, x.look(5), 2, 5, 9, 10};
+        due("he said something, not all", want[4] > 0 && want[4] != 2 && want[4] != 5, true);
+        for (int f = 0; f < facts.length; f++) {
+            tell(x, 0, "sets 3 * " + facts[f] + ";");
+            due("3 * " + facts[f], x.job(2, 3), 3 * want[f]);
+            tell(x, 0, "sets " + facts[f] + " / 2;");
+            due(facts[f] + " / 2", x.job(2, 3), want[f] / 2);
+        }
+        tell(x, 0, "sets day; breaks waits;");
+        due("thought of", x.goes(5, 0), 2);
+        due("its day is not in thought", x.job(2, 3), 10);
+        x.out();
+        due("a print is not in thought", x.act(2, 2), true);
+        due("it is on the tray", x.tray(x.look(9) - 1, 2), 2);
+        due("and told", x.tray(x.look(9) - 1, 3), 4);
     }
 
     private static void faults() {
@@ -572,6 +618,19 @@ public final class PromiseTest {
         faulty(1, "from 1 from;", 1, 7);
         faulty(1, "from 1 a; k", 1, 10);
         faulty(1, "from0a;".repeat(17), 3, 112);
+        faulty(2, "word az;", 2, 5);
+        faulty(2, "word aA;", 2, 5);
+        faulty(2, "word aZ;", 2, 5);
+        faulty(2, "word a@;", 1, 6);
+        faulty(2, "word a[;", 1, 6);
+        faulty(2, "word a`;", 1, 6);
+        faulty(2, "word a{;", 1, 6);
+        faulty(1, "from 1/a;", 1, 6);
+        faulty(1, "from 1:a;", 1, 6);
+        faulty(3, "cast a 5;", 1, 0);
+        faulty(3, "on 0 calm;".repeat(16) + "cast", 1, 160);
+        faulty(0, "when 1;", 1, 0);
+        faulty(0, "sets 1;".repeat(16) + "when", 1, 112);
         faulty(2, "word;", 1, 4);
         faulty(2, "word 1;", 1, 5);
         faulty(2, "word word;", 1, 5);
@@ -808,6 +867,8 @@ public final class PromiseTest {
         due("place(0,0,-1)", x.place(0, 0, -1), false);
         due("place(0,0,10)", x.place(0, 0, 10), false);
         due("place(min)", x.place(MIN, MAX, MIN), false);
+        due("place(0,4,0)", x.place(0, 4, 0), true);
+        due("place(4,0,0)", x.place(4, 0, 0), true);
         row(x, "0");
         due("one letter: once for each place", x.square(), 25);
         due("place(4,4,9)", x.place(4, 4, 9), true);
@@ -1075,6 +1136,8 @@ public final class PromiseTest {
             due("another what", x.ring(n, 0, -1), NONE);
             x = new DevilsFount();
         }
+        due("ring(3,7,0)", x.ring(3, 7, 0), 1);
+        due("another ring: ring(4,8,1)", x.ring(4, 8, 1), 2);
         due("ring(0,0,0)", x.ring(0, 0, 0), NONE);
         due("ring(9,0,0)", x.ring(9, 0, 0), NONE);
         due("ring(-1,0,1)", x.ring(-1, 0, 1), NONE);
@@ -1103,7 +1166,7 @@ public final class PromiseTest {
         columns("012345678901", 1543210, "514039281706");
         columns("0123456", 1012345, "0612345");
         DevilsFount x = withRow("0123456789");
-        for (int key : new int[] {0, 1, -10, 11, 19, 100, 111, 120, 200, 1000, 1013, 2012, 1123, 1112345, 1012346,
+        for (int key : new int[] {0, 1, -10, 11, 19, 20, 100, 111, 120, 200, 1000, 1013, 2012, 1123, 1112345, 1012346,
             2012345, 10123456, 12345, MIN, MAX}) {
             due("columns(" + key + ",0)", x.columns(key, 0), NONE);
         }
@@ -1121,6 +1184,8 @@ public final class PromiseTest {
         due("value(min,max)", x.value(MIN, MAX), false);
         due("value(9,20)", x.value(9, 20), true);
         due("value(1,1)", x.value(1, 1), true);
+        due("value(0,20)", x.value(0, 20), true);
+        due("value(0,0)", x.value(0, 0), true);
         due("value(2,2)", x.value(2, 2), true);
         promise = 30;
         row(x, "120910992");
@@ -1234,6 +1299,14 @@ public final class PromiseTest {
         return all;
     }
 
+    private static int[] trayOf(DevilsFount x) {
+        int[] tray = new int[4 * x.look(9)];
+        for (int i = 0; i < tray.length; i++) {
+            tray[i] = x.tray(i / 4, i % 4);
+        }
+        return tray;
+    }
+
     private static DevilsFount withPast() {
         DevilsFount x = new DevilsFount();
         x.act(0, 0);
@@ -1307,16 +1380,24 @@ public final class PromiseTest {
         tell(x, 0, "sets 900; breaks 1;");
         row(x, "1212");
         x.sign(11);
+        x.sign(2);
         x.value(1, 7);
-        x.place(0, 0, 1);
-        x.place(0, 1, 2);
+        for (int i = 0; i < 4; i++) {
+            x.place(4, 4 - i, 1 + i % 2);
+        }
         x.state(4711);
         x.days(2);
         int[] then = all(x);
+        int[] tray = trayOf(x);
         int square = x.square();
+        due("the row stands in the square", square > 0, true);
         due("taken", x.image(true), true);
         due("its taking forgets nothing", x.look(13), 2);
         for (int round = 0; round < 2; round++) {
+            x.undo();
+            x.undo();
+            x.state(99);
+            x.set(0, 0, 0);
             x.days(3);
             tell(x, 0, "");
             tell(x, 1, "from 0 a;");
@@ -1326,8 +1407,10 @@ public final class PromiseTest {
             x.set(1, 0, 1);
             row(x, "999");
             x.sign(NONE);
+            x.sign(7);
+            x.sign(8);
             x.value(1, 0);
-            x.place(0, 0, 0);
+            x.place(4, 4, 0);
             x.act(2, 0);
             feed(x, "word a;");
             x.text(1);
@@ -1336,6 +1419,7 @@ public final class PromiseTest {
             due("nothing can be undone", x.look(13), 0);
             due("undo", x.undo(), false);
             same("as it was, round " + round, all(x), then);
+            same("its tray, round " + round, trayOf(x), tray);
             due("job", x.job(1, 0), 3);
             due("book", x.devils(1, 0), 2);
             due("row", x.numbers(), 5);
