@@ -84,12 +84,18 @@ public final class LanguageTest {
 
     private static void face() {
         Class<?> program = DevilsFount.class;
+        Set<String> names = new HashSet<>();
+        for (String method : FACE) {
+            names.add(method.substring(method.indexOf(' ') + 1, method.indexOf('(')));
+        }
         check(Modifier.isPublic(program.getModifiers()) && Modifier.isFinal(program.getModifiers()), "public and final");
         Set<String> found = new TreeSet<>();
         for (Method m : program.getDeclaredMethods()) {
             if (!Modifier.isPrivate(m.getModifiers())) {
                 check(Modifier.isPublic(m.getModifiers()) && !Modifier.isStatic(m.getModifiers()), "public: " + m);
                 found.add(m.getReturnType().getSimpleName() + " " + m.getName() + parameters(m.getParameterTypes()));
+            } else {
+                check(!names.contains(m.getName()), "a name of the face: " + m);
             }
         }
         check(found.equals(new TreeSet<>(FACE)), "the methods of the face: " + found);
@@ -99,10 +105,6 @@ public final class LanguageTest {
         Constructor<?>[] made = program.getDeclaredConstructors();
         check(made.length == 1 && Modifier.isPublic(made[0].getModifiers()) && made[0].getParameterCount() == 0,
             "one public constructor");
-        Set<String> names = new HashSet<>();
-        for (String method : FACE) {
-            names.add(method.substring(method.indexOf(' ') + 1, method.indexOf('(')));
-        }
         Class<?>[] inside = program.getDeclaredClasses();
         check(inside.length + 1 <= MOST_CLASSES, "classes: " + (inside.length + 1));
         for (Class<?> c : inside) {

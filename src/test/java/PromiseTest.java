@@ -448,6 +448,9 @@ public final class PromiseTest {
         due("done stays", x.look(6), 1);
         due("an empty text", x.text(1), 0);
         due("look(1)", x.look(1), 0);
+        right(0, "sets 0" + "+0".repeat(196) + "; ", 1);
+        faulty(0, ";".repeat(400), 1, 0);
+        faulty(0, "sets 1" + "+1".repeat(197), 1, 400);
         right(0, "", 0);
         right(0, " \n ", 0);
         right(2, "word a;".repeat(16), 16);
@@ -695,6 +698,12 @@ public final class PromiseTest {
         due("of(3,1)", x.of(3, 1), 2);
         due("of(3,2)", x.of(3, 2), 3);
         due("of(3,3)", x.of(3, 3), 0);
+        tell(x, 1, "from 0 c;");
+        tell(x, 2, "word c;");
+        due("of(0,3) of fewer jobs", x.of(0, 3), 0);
+        due("of(1,3) of fewer jobs", x.of(1, 3), 0);
+        due("of(0,4) of a smaller book", x.of(0, 4), 0);
+        due("of(1,4) of a smaller book", x.of(1, 4), 0);
         due("of(-1,0)", x.of(-1, 0), NONE);
         due("of(10,0)", x.of(10, 0), NONE);
         due("of(0,5)", x.of(0, 5), NONE);
@@ -1227,6 +1236,8 @@ public final class PromiseTest {
         due("from b: nothing wins", x.game(11), NONE);
         due("from bc: whole", x.game(112), NONE);
         due("from d: begins none", x.game(13), NONE);
+        tell(x, 2, "word bc;");
+        due("of a smaller book", x.game(12), NONE);
         tell(x, 2, "word ab; word abcd; word jjj; word jjja;");
         due("from abc", x.game(1012), NONE);
         due("from ab: whole, though it begins another", x.game(101), NONE);
@@ -1297,6 +1308,28 @@ public final class PromiseTest {
             all[14 + 2 * l] = x.of(l, 1);
         }
         return all;
+    }
+
+    /** Lines of a long TRAY, and signs, are told otherwise after the image was taken. */
+    private static void longImage() {
+        DevilsFount x = new DevilsFount();
+        tell(x, 1, "from 0 abc;");
+        tell(x, 2, "word a;");
+        x.sign(1);
+        x.days(50);
+        int[] tray = trayOf(x);
+        due("lines", x.look(9), 100);
+        x.image(true);
+        for (int d = 0; d < 6; d++) {
+            x.undo();
+        }
+        x.set(0, 1, 1);
+        x.days(20);
+        due("another line", x.tray(88, 3), 2);
+        x.sign(2);
+        x.image(false);
+        same("a long tray", trayOf(x), tray);
+        due("one sign", x.sign(3), 2);
     }
 
     private static int[] trayOf(DevilsFount x) {
@@ -1432,6 +1465,7 @@ public final class PromiseTest {
             x.image(false);
             due("again", x.look(3), 2);
         }
+        longImage();
     }
 
     private static void looks() {
