@@ -615,7 +615,6 @@ public final class DayBoundaryTest extends Sentences {
 
     private static DevilsFount old(int day) {
         DevilsFount x = fount(9, 9);
-        jobs(x, "from 0 c;");
         for (int i = 0; i < 166; i++) {
             x.days(60);
         }
@@ -638,7 +637,7 @@ public final class DayBoundaryTest extends Sentences {
         DevilsFount x = old(9960);
         due("days(39) on 9960", x.days(39), 2);
         due("DAY", x.look(8), 9999);
-        due("THE TRAY was full long before", lastLine(x), 149, 1, 0, 1);
+        due("the first line's DAY", x.tray(0, 0), 9960);
         x = old(9998);
         due("days(1) on 9998", x.days(1), 2);
         due("DAY", x.look(8), 9999);

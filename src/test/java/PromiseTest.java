@@ -1124,27 +1124,20 @@ public final class PromiseTest {
             }
         }
         for (int n = 8; n >= 1; n--) {
-            int ones = 0;
-            boolean[] seen = new boolean[1 << n];
+            x = new DevilsFount();
+            int[] ring = new int[1 << n];
             for (int i = 0; i < 1 << n; i++) {
-                due("ring(" + n + "," + i + ",1)", x.ring(n, i, 1), ones);
-                ones += x.ring(n, i, 0);
-                int bits = 0;
-                for (int k = 0; k < n; k++) {
-                    bits = bits * 2 + x.ring(n, i + k & (1 << n) - 1, 0);
-                }
-                due("a row of " + n + " bits stands once", seen[bits], false);
-                seen[bits] = true;
+                ring[i] = x.ring(n, i, 0);
             }
-            due("half of them", x.ring(n, 1 << n, 1), 1 << n - 1);
             due("behind the last", x.ring(n, 1 << n, 0), NONE);
             due("far behind the last", x.ring(n, (1 << n) + 1, 1), NONE);
             due("before the first", x.ring(n, -1, 0), NONE);
             due("before the first", x.ring(n, -1, 1), NONE);
             due("another what", x.ring(n, 0, 2), NONE);
             due("another what", x.ring(n, 0, -1), NONE);
-            x = new DevilsFount();
+            ringReadRound(n, ring);
         }
+        x = new DevilsFount();
         due("ring(3,7,0)", x.ring(3, 7, 0), 1);
         due("another ring: ring(4,8,1)", x.ring(4, 8, 1), 2);
         due("ring(0,0,0)", x.ring(0, 0, 0), NONE);
@@ -1152,6 +1145,23 @@ public final class PromiseTest {
         due("ring(-1,0,1)", x.ring(-1, 0, 1), NONE);
         due("ring(min)", x.ring(MIN, MIN, MIN), NONE);
         due("ring(max)", x.ring(MAX, MAX, MAX), NONE);
+    }
+
+    private static void ringReadRound(int n, int[] ring) {
+        DevilsFount x = new DevilsFount();
+        int ones = 0;
+        boolean[] seen = new boolean[1 << n];
+        for (int i = 0; i < 1 << n; i++) {
+            due("ring(" + n + "," + i + ",1)", x.ring(n, i, 1), ones);
+            ones += ring[i];
+            int bits = 0;
+            for (int k = 0; k < n; k++) {
+                bits = bits * 2 + ring[i + k & (1 << n) - 1];
+            }
+            due("a row of " + n + " bits stands once", seen[bits], false);
+            seen[bits] = true;
+        }
+        due("half of them", x.ring(n, 1 << n, 1), 1 << n - 1);
     }
 
     private static void columns(String digits, int key, String want) {
@@ -1316,16 +1326,16 @@ public final class PromiseTest {
         tell(x, 1, "from 0 abc;");
         tell(x, 2, "word a;");
         x.sign(1);
-        x.days(50);
+        x.days(25);
         int[] tray = trayOf(x);
-        due("lines", x.look(9), 100);
+        due("lines", x.look(9), 50);
         x.image(true);
         for (int d = 0; d < 6; d++) {
             x.undo();
         }
         x.set(0, 1, 1);
         x.days(20);
-        due("another line", x.tray(88, 3), 2);
+        due("another line", x.tray(38, 3), 2);
         x.sign(2);
         x.image(false);
         same("a long tray", trayOf(x), tray);

@@ -195,7 +195,8 @@ public final class TextBoundaryTest extends Sentences {
         faulty(0, "sets 1 when (1=1;", 1, 16);
         faulty(0, "sets 1 when 1=1);", 1, 15);
         faulty(0, "sets 1 when (1)=1;", 1, 14);
-        sentence("E = T {(+ | -) T}. T = U {* U | / NUMBER}.");
+        sentence("E = T {(+ | -) T}. T = U {* U | / NUMBER}. U = NUMBER | length | least | rest | daring | said | done | waits "
+            + "| blanks | day.");
         due("from the left: -", sets("sets 10 - 3 - 2;"), 5);
         due("from the left: - +", sets("sets 10 - 3 + 2;"), 9);
         due("* before -", sets("sets 10 - 3 * 2;"), 4);
@@ -214,6 +215,16 @@ public final class TextBoundaryTest extends Sentences {
         faulty(0, "sets 1/day;", 1, 7);
         faulty(0, "sets (1);", 1, 5);
         faulty(0, "sets 1*(1);", 1, 7);
+        for (String fact : "length least rest daring said done waits blanks day".split(" ")) {
+            right(0, "sets " + fact + "; breaks 1-" + fact + "*" + fact + "/2; dares 1 when " + fact + "=" + fact + ";", 3);
+            faulty(0, "sets 1/" + fact + ";", 1, 7);
+            faulty(0, "sets " + fact + " " + fact + ";", 1, 6 + fact.length());
+        }
+        for (String other : "sets breaks dares when or and not".split(" ")) {
+            faulty(0, "sets " + other + ";", 1, 5);
+            faulty(0, "sets 1*" + other + ";", 1, 7);
+            faulty(0, "sets 1 when " + other + (other.equals("not") ? " not" : "") + "=1;", 1, other.equals("not") ? 19 : 12);
+        }
     }
 
     private static void otherTextsAreSpelt() {

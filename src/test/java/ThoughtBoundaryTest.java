@@ -1,3 +1,5 @@
+import java.util.TreeSet;
+
 /** Part 4 of the document but UNDO and THE IMAGE, and promises 14 to 31, sentence by sentence: what is thought of. */
 public final class ThoughtBoundaryTest extends Sentences {
     public static void main(String[] args) {
@@ -21,6 +23,7 @@ public final class ThoughtBoundaryTest extends Sentences {
         seven();
         over();
         ring();
+        ringOfHeads();
         ringReadRound();
         columns();
         keys();
@@ -589,6 +592,7 @@ public final class ThoughtBoundaryTest extends Sentences {
             due("over(" + v + ", 128)", x.over(v, 128), 0);
             due("over(" + v + ", 8)", x.over(v, 8), 0);
         }
+        x = new DevilsFount();
         for (int p = 2; p <= 255; p++) {
             due("over(0, " + p + ")", x.over(0, p), 0);
             // p less its highest bit is what is left of that bit alone
@@ -669,6 +673,38 @@ public final class ThoughtBoundaryTest extends Sentences {
         due("one ring after another: 3", x.ring(3, 3, 0), 1);
         due("one ring after another: 4", x.ring(4, 3, 0), 0);
         due("one ring after another: 3", x.ring(3, 7, 1), 3);
+    }
+
+    /** By the document's own words: rows less than each of their own ends, one behind another. */
+    private static void ringOfHeads() {
+        sentence("(all rows of bits that are less than each of their own ends and of a length that divides n, in order, one "
+            + "behind another, are it)");
+        for (int n = 1; n <= 8; n++) {
+            TreeSet<String> rows = new TreeSet<>();
+            for (int size = 1; size <= n; size++) {
+                for (int bits = 1 << size; n % size == 0 && bits < 2 << size; bits++) {
+                    String row = Integer.toBinaryString(bits).substring(1);
+                    if (isLessThanItsEnds(row)) {
+                        rows.add(row);
+                    }
+                }
+            }
+            String ring = String.join("", rows);
+            due("bits of " + n, ring.length(), 1 << n);
+            DevilsFount x = new DevilsFount();
+            for (int i = 0; i < ring.length(); i++) {
+                due("ring(" + n + ", " + i + ", 0)", x.ring(n, i, 0), ring.charAt(i) - '0');
+            }
+        }
+    }
+
+    private static boolean isLessThanItsEnds(String row) {
+        for (int from = 1; from < row.length(); from++) {
+            if (row.compareTo(row.substring(from)) >= 0) {
+                return false;
+            }
+        }
+        return true;
     }
 
     private static void ringReadRound() {
@@ -908,10 +944,19 @@ public final class ThoughtBoundaryTest extends Sentences {
         due("bjj is whole", x.game(1199), NONE);
         due("ccc is whole", x.game(1222), NONE);
         due("aaaa is whole", x.game(10000), NONE);
+        sentence("from a told beginning (0 .. 3 LETTERS as digits behind a 1)");
         int[] odd = {0, -1, -10, 2, 9, 20, 21, 99, 200, 999, 2000, 9999, 10001, 11999, 12223, 20000, 100000, MIN, MAX};
         for (int beginning : odd) {
             due("it can't be: " + beginning, x.game(beginning), NONE);
         }
+        x = withBook("jjjj aaaa");
+        for (int letter = 0; letter <= 9; letter++) {
+            int own = letter == 0 || letter == 9 ? letter : NONE;
+            due("one LETTER", x.game(10 + letter), NONE);
+            due("two LETTERS", x.game(100 + 11 * letter), own);
+            due("three LETTERS", x.game(1000 + 111 * letter), NONE);
+        }
+        due("none", x.game(1), 0);
         x = withBook("a aj");
         due("a is whole, though aj goes on", x.game(10), NONE);
     }
