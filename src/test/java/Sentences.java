@@ -46,10 +46,11 @@ class Sentences {
     }
 
     private static void endSentence() {
-        if (sentences > 0 && answers == answersBefore) {
+        if (!words.isEmpty() && answers == answersBefore) {
             fail("nothing is tested");
         }
         answersBefore = answers;
+        words = "";
     }
 
     private static void fail(String told) {
@@ -309,8 +310,8 @@ class Sentences {
         jobs(x, "from 0 ab; from 1 cad; from 2 aabbcc; from 900 d; from 0 ee;");
         book(x, "word ab; word dcb; word ddddd; word e;");
         changes(x, "on 0 cast a 2; on 1 melt d 2; on 2 dare 8; on 3 cast d 50;");
-        row(x, "120121");
-        x.sign(1);
+        row(x, "21021");
+        x.sign(2);
         x.sign(11);
         for (int i = 0; i < 5; i++) {
             x.place(i, i, i % 3);

@@ -220,6 +220,10 @@ public final class TextBoundaryTest extends Sentences {
             faulty(0, "sets 1/" + fact + ";", 1, 7);
             faulty(0, "sets " + fact + " " + fact + ";", 1, 6 + fact.length());
         }
+        for (String other : "when or and not length least rest daring said done waits blanks day".split(" ")) {
+            faulty(0, other + " 1;", 1, 0);
+            faulty(0, "sets 1;" + other + " 1;", 1, 7);
+        }
         for (String other : "sets breaks dares when or and not".split(" ")) {
             faulty(0, "sets " + other + ";", 1, 5);
             faulty(0, "sets 1*" + other + ";", 1, 7);
@@ -254,6 +258,12 @@ public final class TextBoundaryTest extends Sentences {
         sentence("2 BOOK = {word WORD ;}");
         right(2, "", 0);
         right(2, "word a; word a;", 2);
+        x = new DevilsFount();
+        book(x, "word abcdefgh; word ij; word a;");
+        book(x, "word j; word abc;");
+        due("told anew: a shorter one", new int[] {x.devils(0, 0), x.devils(0, 10), x.devils(0, 11)}, 1, 9, NONE);
+        due("told anew: a longer one", new int[] {x.devils(1, 0), x.devils(1, 10), x.devils(1, 12)}, 3, 0, 2);
+        due("told anew: no third one", x.devils(2, 0), -2);
         faulty(2, ";", 1, 0);
         faulty(2, "word;", 1, 4);
         faulty(2, "word 1 a;", 1, 5);
@@ -261,6 +271,14 @@ public final class TextBoundaryTest extends Sentences {
         faulty(2, "word a;;", 1, 7);
         sentence("3 CHANGES = {on DAY (cast LETTER N | melt LETTER N | dare N | calm) ;}");
         right(3, "", 0);
+        x = new DevilsFount();
+        changes(x, "on 0 dare 7; on 0 cast b 9;");
+        changes(x, "on 0 calm; on 0 dare 3; on 0 calm;");
+        x.days(1);
+        due("told anew: calm, nothing cast", new int[] {x.look(4), x.look(0)}, 0, 0);
+        changes(x, "on 1 cast j 5; on 1 dare 2; on 1 melt j 1;");
+        x.days(1);
+        due("told anew: cast and melted", new int[] {x.look(4), x.look(0), x.of(9, 0)}, 2, 4, 4);
         right(3, "on 0 cast a 1; on 0 melt a 1; on 0 dare 1; on 0 calm;", 4);
         faulty(3, ";", 1, 0);
         faulty(3, "on calm;", 1, 3);
@@ -277,6 +295,12 @@ public final class TextBoundaryTest extends Sentences {
         faulty(3, "on 0 calm 1;", 1, 10);
         faulty(3, "on 0 calm calm;", 1, 10);
         faulty(3, "calm;", 1, 0);
+        faulty(3, "cast a 1;", 1, 0);
+        faulty(3, "cast 0 calm;", 1, 0);
+        faulty(3, "melt 0 calm;", 1, 0);
+        faulty(3, "dare 0 calm;", 1, 0);
+        faulty(3, "calm 0 calm;", 1, 0);
+        faulty(3, "on on 0 calm;", 1, 3);
         faulty(3, "0 calm;", 1, 0);
     }
 
@@ -403,6 +427,9 @@ public final class TextBoundaryTest extends Sentences {
         // 9999 * 9999 * 25 wraps to -1795467271: by 9999 -179564.68, and again -17.96
         due("/ goes towards 0", sets("sets 9999*9999*25/9999/9999 + 18;"), 1);
         due("/ goes towards 0 at once", sets("sets 9999*9999*25/9000/9999/19 + 2;"), 1);
+        due("7 / 1", sets("sets 7/1;"), 7);
+        due("1 / 1", sets("sets 1/1;"), 1);
+        due("0 / 1", sets("sets 0/1;"), 0);
         due("7 / 8", sets("sets 7/8;"), 0);
         due("8 / 8", sets("sets 8/8;"), 1);
         due("15 / 8", sets("sets 15/8;"), 1);
@@ -426,6 +453,30 @@ public final class TextBoundaryTest extends Sentences {
         faulty(2, "word a;".repeat(16) + "word k;", 3, 112);
         faulty(2, "word a;".repeat(16) + "k", 1, 112);
         sentence("1 what can't stand there (the end: the text's length; a WORD is none of THE LAW's).");
+        for (String odd : new String[] {"!", "\t", "\u0000", "\u007f", "\u0080", "\u00ff", "12345", ";", "+", "-", "*", "/",
+            "(", ")", "<", "=", ">"}) {
+            // wherever a KEYWORD, a NUMBER, a WORD may stand
+            faulty(0, odd, 1, 0);
+            faulty(0, "sets " + odd, 1, 5);
+            faulty(1, odd, 1, 0);
+            faulty(1, "from " + odd, 1, 5);
+            faulty(1, "from 0 " + odd, 1, 7);
+            faulty(2, odd, 1, 0);
+            faulty(2, "word " + odd, 1, 5);
+            faulty(3, odd, 1, 0);
+            faulty(3, "on " + odd, 1, 3);
+            faulty(3, "on 0 " + odd, 1, 5);
+            faulty(3, "on 0 cast " + odd, 1, 10);
+            faulty(3, "on 0 melt a " + odd, 1, 12);
+            faulty(3, "on 0 dare " + odd, 1, 10);
+        }
+        for (int k = 0; k < 4; k++) {
+            faulty(k, ";".repeat(400), 1, 0);
+            faulty(k, "!".repeat(400), 1, 0);
+            faulty(k, "1".repeat(400), 1, 0);
+            faulty(k, "a".repeat(400), 1, 0);
+            faulty(k, " ".repeat(399) + ";", 1, 399);
+        }
         faulty(0, "sets a;", 1, 5);
         faulty(0, "sets abcdefghij;", 1, 5);
         faulty(0, "sets k;", 1, 5);
@@ -777,6 +828,15 @@ public final class TextBoundaryTest extends Sentences {
             due("the TAPE is empty", x.end(1), false);
             refused(Sentences::busy, "text(" + k + ")", y -> tell(y, k, "word a;"), NONE);
         }
+        // each of a long row of texts is the TEXT, however many were told before it, with a FAULT or without
+        DevilsFount z = fount(1);
+        jobs(z, "from 0 a;");
+        for (int i = 0; i < 20; i++) {
+            due("a long text", tell(z, 0, "sets " + i + "+0".repeat(100) + " when 0=0;"), 1);
+            due("what it tells", z.job(0, 3), i);
+            due("one with a FAULT", tell(z, 0, "sets 1 when ((((((((1+1*1 and;"), NONE);
+        }
+        due("no ( is open any more", tell(z, 0, "sets 1 when ((((((((1=1))))))));"), 1);
         String[] right = {"sets 100; sets 200; dares 100; ", "from 0 b; from 0 c; from 0 d;", "word b; word c; word d;",
             "on 9 calm; on 8 calm; on 7 calm; on 6 calm; on 5 calm;"};
         for (int k = 0; k < 4; k++) {

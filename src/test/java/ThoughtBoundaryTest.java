@@ -63,6 +63,18 @@ public final class ThoughtBoundaryTest extends Sentences {
             refused(Sentences::busy, "goes(60, " + what + "), of which nothing stays", y -> y.goes(60, w),
                 busy().goes(60, w));
         }
+        x = fount(1);
+        jobs(x, "from 0 a;");
+        x.goes(5, 0);
+        x.out();
+        due("what was thought of is still to be done", x.act(2, 0), true);
+        due("and is done, not thought of", lastLine(x), 0, 0, 0, 0);
+        due("DONE", x.look(6), 1);
+        x = fount(1);
+        jobs(x, "from 0 a;");
+        x.goes(5, 0);
+        due("a DAY behind it", x.days(1), 1);
+        due("has its line and its DRAW", new int[] {x.look(9), x.look(10)}, 1, next(0));
         refused(Sentences::busy, "out(), of which nothing stays", y -> y.out(), busy().out());
     }
 
@@ -368,6 +380,11 @@ public final class ThoughtBoundaryTest extends Sentences {
         due("eight times 10, seven letters", pattern("1234567", 10, 10, 10, 10, 10, 10, 10, 10), 0);
         due("eight times 10, nine letters", pattern("123456789", 10, 10, 10, 10, 10, 10, 10, 10), 0);
         due("eight times 11", pattern("123456789", 11, 11, 11, 11, 11, 11, 11, 11), 1);
+        due("11, the last", pattern("123456789012", 11, 2), 1);
+        due("11, not the last", pattern("123456789012", 11, 3), 0);
+        due("11, the last, one more", pattern("123456789012", 11, 2, 2), 0);
+        due("11, the last, any one more", pattern("123456789012", 11, 2, 10), 0);
+        due("11, the last, any more", pattern("123456789012", 11, 2, 11), 1);
         due("seven times 10 and 11, twelve", pattern("123456789012", 10, 10, 10, 10, 10, 10, 10, 11), 1);
         due("seven times 10 and 11, seven", pattern("1234567", 10, 10, 10, 10, 10, 10, 10, 11), 1);
         due("seven times 10 and 11, six", pattern("123456", 10, 10, 10, 10, 10, 10, 10, 11), 0);
@@ -380,6 +397,10 @@ public final class ThoughtBoundaryTest extends Sentences {
     // ---- what is asked of a row
 
     private static void turned(String row, String last, int place) {
+        due("turned(NONE) of " + row + " at once", withRow(row).turned(NONE), place);
+        for (int i = 0; i < row.length(); i++) {
+            due("turned(" + i + ") of " + row + " at once", withRow(row).turned(i), last.charAt(i) - '0');
+        }
         DevilsFount x = withRow(row);
         for (int i = 0; i < row.length(); i++) {
             due("turned(" + i + ") of " + row, x.turned(i), last.charAt(i) - '0');
@@ -771,14 +792,14 @@ public final class ThoughtBoundaryTest extends Sentences {
         sentence("(a row of k digits behind a 1, 0 .. k - 1 each once; the column told first first): the i-th letter.");
         // which keys there are up to 2000, and some of the longer ones
         String keys = " 10 101 110 1012 1021 1102 1120 1201 1210 ";
-        DevilsFount x = withRow("5");
+        DevilsFount x = withRow("555555555555");
         for (int key = 0; key <= 2000; key++) {
             if (key % 400 == 0) {
-                x = withRow("5");
+                x = withRow("555555555555");
             }
             due("columns(" + key + ", 0)", x.columns(key, 0), keys.contains(" " + key + " ") ? 5 : NONE);
         }
-        x = withRow("5");
+        x = withRow("555555555555");
         for (int key : new int[] {10123, 13210, 101234, 143210, 1012345, 1543210, 1250341}) {
             due("columns(" + key + ", 0)", x.columns(key, 0), 5);
         }
@@ -957,7 +978,8 @@ public final class ThoughtBoundaryTest extends Sentences {
             due("three LETTERS", x.game(1000 + 111 * letter), NONE);
         }
         due("none", x.game(1), 0);
-        x = withBook("a aj");
-        due("a is whole, though aj goes on", x.game(10), NONE);
+        x = withBook("a ajj");
+        due("a is whole, though aj would win", x.game(10), NONE);
+        due("behind it that one may be", withBook("b ajj").game(10), 9);
     }
 }
