@@ -7,6 +7,8 @@ public final class ModelTest {
     private static final int RUNS = 1500;
     private static final int CALLS = 512;
     private static final int MOST_TOLD = 5;
+    private static final int[] EDGES = {Integer.MIN_VALUE, -99999, 0, 4, 8, 10, 11, 12, 15, 17, 20, 60, 99, 101, 110, 112, 127,
+        150, 255, 256, 400, 1000, 1023, 1201, 9999, 12345, 1048575, 1012345, 1543210, Integer.MAX_VALUE};
 
     private final Random random;
     private final Texts texts;
@@ -19,7 +21,7 @@ public final class ModelTest {
     private ModelTest(long seed) {
         random = new Random(seed);
         texts = new Texts(random);
-        kindOfRun = (int) (seed % 4);
+        kindOfRun = (int) (seed % 5);
     }
 
     public static void main(String[] args) {
@@ -66,6 +68,9 @@ public final class ModelTest {
             int s = random.nextInt();
             same("state(" + s + ")", x.state(s), m.state(s));
         }
+        while (kindOfRun == 4 && calls.size() < CALLS - 30 && !wrong) {
+            wild();
+        }
         while (calls.size() < CALLS - 30 && !wrong) {
             switch (kindOfRun == 3 ? 2 + random.nextInt(2) : random.nextInt(5)) {
                 case 0:
@@ -99,6 +104,66 @@ public final class ModelTest {
                     ? Integer.MIN_VALUE : Integer.MAX_VALUE;
             default:
                 return least + random.nextInt(most - least + 1);
+        }
+    }
+
+    /** Any number: small ones, those at the edges of what is taken, and those far beyond. */
+    private int any() {
+        switch (random.nextInt(4)) {
+            case 0:
+                return random.nextInt(13);
+            case 1:
+                return EDGES[random.nextInt(EDGES.length)] + random.nextInt(3) - 1;
+            case 2:
+                return random.nextInt(5) - 2;
+            default:
+                return random.nextInt(6) == 0 ? random.nextInt() : random.nextInt(20);
+        }
+    }
+
+    /** Any call with any numbers. */
+    private void wild() {
+        int a = any();
+        int b = any();
+        int c = any();
+        String one = "(" + a + ")";
+        String two = "(" + a + "," + b + ")";
+        String three = "(" + a + "," + b + "," + c + ")";
+        switch (random.nextInt(34)) {
+            case 0: same("state" + one, x.state(a), m.state(a)); break;
+            case 1: same("set" + three, x.set(a, b, c), m.set(a, b, c)); break;
+            case 2: same("act" + two, x.act(a, b), m.act(a, b)); break;
+            case 3: same("days" + one, x.days(a), m.days(a)); break;
+            case 4: same("feed" + three, x.feed(a, b, c, a, b), m.feed(a, b, c, a, b)); break;
+            case 5: same("end" + one, x.end(a), m.end(a)); break;
+            case 6: same("text" + one, x.text(a), m.text(a)); break;
+            case 7: same("fault" + one, x.fault(a), m.fault(a, true)); break;
+            case 8: same("of" + two, x.of(a, b), m.of(a, b)); break;
+            case 9: same("job" + two, x.job(a, b), m.job(a, b)); break;
+            case 10: same("devils" + two, x.devils(a, b), m.devils(a, b)); break;
+            case 11: same("tray" + two, x.tray(a, b), m.tray(a, b)); break;
+            case 12: same("goes" + two, x.goes(a, b), m.goes(a, b)); break;
+            case 13: same("out()", x.out(), m.out()); break;
+            case 14: same("place" + three, x.place(a, b, c), m.place(a, b, c)); break;
+            case 15: same("letter" + one, x.letter(a), m.letter(a)); break;
+            case 16: same("square()", x.square(), m.square()); break;
+            case 17: same("numbers()", x.numbers(), m.numbers()); break;
+            case 18: same("sign" + one, x.sign(a), m.sign(a)); break;
+            case 19: same("pattern()", x.pattern(), m.pattern()); break;
+            case 20: same("turned" + one, x.turned(a), m.turned(a)); break;
+            case 21: same("front" + one, x.front(a), m.front(a)); break;
+            case 22: same("row" + one, x.row(a), m.row(a)); break;
+            case 23: same("seven" + two, x.seven(a, b), m.seven(a, b)); break;
+            case 24: same("over" + two, x.over(a, b), m.over(a, b)); break;
+            case 25: same("ring" + three, x.ring(a, b, c), m.ring(a, b, c)); break;
+            case 26: same("columns" + two, x.columns(a, b), m.columns(a, b)); break;
+            case 27: same("value" + two, x.value(a, b), m.value(a, b)); break;
+            case 28: same("values" + one, x.values(a), m.values(a)); break;
+            case 29: same("game" + one, x.game(a), m.game(a)); break;
+            case 30: same("undo()", x.undo(), m.undo()); break;
+            case 31: same("image(" + (a % 2 == 0) + ")", x.image(a % 2 == 0), m.image(a % 2 == 0)); break;
+            case 32: same("look" + one, x.look(a), m.look(a)); break;
+            default: tell(random.nextInt(4)); break;
         }
     }
 

@@ -153,7 +153,6 @@ public final class PastBoundaryTest extends Sentences {
             DevilsFount y = ready();
             if (n > 6) {
                 y.days(n - 6);
-                y.set(2, 0, 0);
             }
             due("DAY", x.look(8), Math.max(0, n - 6));
             due("STATE", x.look(10), y.look(10));

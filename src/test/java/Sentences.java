@@ -11,8 +11,6 @@ class Sentences {
     static final int NONE = DevilsFount.NONE;
     static final int MIN = Integer.MIN_VALUE;
     static final int MAX = Integer.MAX_VALUE;
-    /** Numbers that are far from whatever a call takes. */
-    static final int[] FAR = {MIN, MIN + 1, -1000000, 1000000, MAX - 1, MAX};
 
     private static final Path DOCUMENT = Path.of("..", "shared", "DOC.md");
     private static final String DOCUMENT_TEXT = document();

@@ -273,7 +273,7 @@ public final class TextBoundaryTest extends Sentences {
         right(3, "", 0);
         x = new DevilsFount();
         changes(x, "on 0 dare 7; on 0 cast b 9;");
-        changes(x, "on 0 calm; on 0 dare 3; on 0 calm;");
+        changes(x, "on 0 dare 3; on 0 calm;");
         x.days(1);
         due("told anew: calm, nothing cast", new int[] {x.look(4), x.look(0)}, 0, 0);
         changes(x, "on 1 cast j 5; on 1 dare 2; on 1 melt j 1;");
