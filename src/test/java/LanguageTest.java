@@ -5,6 +5,7 @@ import com.sun.source.tree.ImportTree;
 import com.sun.source.tree.LiteralTree;
 import com.sun.source.tree.MethodInvocationTree;
 import com.sun.source.tree.MethodTree;
+import com.sun.source.tree.NewArrayTree;
 import com.sun.source.tree.NewClassTree;
 import com.sun.source.tree.Tree;
 import com.sun.source.tree.VariableTree;
@@ -166,6 +167,8 @@ public final class LanguageTest {
         private final CompilationUnitTree unit;
         private final Map<String, Set<String>> calls = new HashMap<>();
         private String method = "";
+        /** Whether what is scanned is done when an object is made: a constructor, or a field's first value. */
+        private boolean making = true;
 
         Scan(Trees trees, CompilationUnitTree unit) {
             this.trees = trees;
@@ -196,9 +199,11 @@ public final class LanguageTest {
             check(tree.getParameters().size() <= MOST_PARAMETERS, where(tree) + " parameters");
             String outer = method;
             method = name(trees.getElement(getCurrentPath()));
+            making = tree.getName().contentEquals("<init>");
             calls.putIfAbsent(method, new HashSet<>());
             super.visitMethod(tree, v);
             method = outer;
+            making = true;
             return null;
         }
 
@@ -229,7 +234,14 @@ public final class LanguageTest {
             check(isOwn(type) || Set.of("java.lang.String", "java.lang.StringBuilder", "java.util.ArrayList")
                 .contains(type.replaceAll("<.*", "")), where(tree) + " " + tree);
             check(tree.getClassBody() == null, where(tree) + " anonymous");
+            check(making, where(tree) + " a call makes an object, and all that a run makes is counted");
             return super.visitNewClass(tree, v);
+        }
+
+        @Override
+        public Void visitNewArray(NewArrayTree tree, Void v) {
+            check(making, where(tree) + " a call makes an array, and all that a run makes is counted");
+            return super.visitNewArray(tree, v);
         }
 
         private static boolean isOwn(String type) {
